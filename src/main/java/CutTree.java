@@ -153,7 +153,7 @@ public final class CutTree {
     }
 
     private static boolean parts(int cut, int u, int v) {
-        return has(cut, u) != has(cut, v);
+        return ((cut >> u ^ cut >> v) & 1) == 1;
     }
 
     private static int sizeOf(int set) {

@@ -191,7 +191,7 @@ public final class FlowTest {
                 due(run + "cap(" + top + ")", tree.cap(top), cap(top));
                 break;
             default:
-                int c = next(most + 2) - 1;
+                int c = next(most + 3) - 1;
                 String call = run + "connect(" + u + ", " + v + ", " + c + ")";
                 due(call, tree.connect(u, v, c) ? 1 : 0, connect(u, v, c) ? 1 : 0);
         }

@@ -169,6 +169,12 @@ public final class PromisesTest {
         due("side(1, 4) of a line", line.side(1, 4), 0b00011);
         due("side(3, 0) of a line", line.side(3, 0), 0b11000);
         due("side(2, 1) of a line", line.side(2, 1), 0b11100);
+        CutTree tail = full(8, 50);
+        for (int u = 0; u < 7; u++) {
+            tail.connect(u, 7, u == 0 ? 1 : 0);
+        }
+        due("side(0, 7) with all points but one", tail.side(0, 7), 0b01111111);
+        due("side(7, 0) with one point", tail.side(7, 0), 0b10000000);
         // A line whose points do not stand in the order of their numbers: 3, 0, 1, 2.
         CutTree mixed = new CutTree(4);
         mixed.connect(3, 0, 5);
