@@ -92,8 +92,9 @@ public final class SentencesTest {
             return tree;
         }
 
+        // The answers of connect and cap are not judged here, so that a wrong one is told under its own sentence alone.
         private Net connect(int u, int v, int c) {
-            due("connect(" + u + ", " + v + ", " + c + ") in " + name, next().connect(u, v, c) ? 1 : 0, 1);
+            next().connect(u, v, c);
             record(u, v, c);
             return this;
         }
@@ -108,9 +109,13 @@ public final class SentencesTest {
             return found;
         }
 
-        private void cap(int top) {
-            int want = greaterThan(top);
-            due("cap(" + top + ") in " + name, next().cap(top), want);
+        private int cap(int top) {
+            int answer = next().cap(top);
+            lowerRecord(top);
+            return answer;
+        }
+
+        private void lowerRecord(int top) {
             for (int u = 0; u < n; u++) {
                 for (int v = 0; v < n; v++) {
                     capacities[u][v] = Math.min(capacities[u][v], top);
@@ -300,10 +305,8 @@ public final class SentencesTest {
     private static Change capping(int top) {
         return (x, record) -> {
             x.cap(top);
-            for (int[] row : record.capacities) {
-                for (int v = 0; v < row.length && top >= 0; v++) {
-                    row[v] = Math.min(row[v], top);
-                }
+            if (top >= 0) {
+                record.lowerRecord(top);
             }
         };
     }
@@ -552,13 +555,18 @@ public final class SentencesTest {
                 countsJust(n, greater, 0);
             }
             for (int top = 0; top <= 51; top++) {
-                differing(n).cap(top);
-                mixed(n, 50, top).cap(top);
+                countsGreater(differing(n), top);
+                countsGreater(mixed(n, 50, top), top);
             }
             countsOnTheWayDown(differing(n));
             countsOnTheWayDown(full("a network with 50", n, 50));
             countsAgainAfterConnect(n);
         }
+    }
+
+    private static void countsGreater(Net net, int top) {
+        int want = net.greaterThan(top);
+        due("cap(" + top + ") of " + net.name, net.cap(top), want);
     }
 
     // The first couples, or the last ones, are one above top; the others are just at it and do not count.
@@ -574,32 +582,31 @@ public final class SentencesTest {
             }
         }
         for (Net net : List.of(first, last)) {
-            due("cap(" + (top + 1) + ") of " + net.name, net.next().cap(top + 1), 0);
-            due("cap(" + top + ") of " + net.name, net.next().cap(top), greater);
-            due("cap(" + top + ") of " + net.name + " again", net.next().cap(top), 0);
+            due("cap(" + (top + 1) + ") of " + net.name, net.cap(top + 1), 0);
+            due("cap(" + top + ") of " + net.name, net.cap(top), greater);
+            due("cap(" + top + ") of " + net.name + " again", net.cap(top), 0);
         }
     }
 
     private static void countsOnTheWayDown(Net net) {
         for (int top = 51; top >= 0; top--) {
-            net.cap(top);
-            net.cap(top);
-            net.cap(MOST);
+            countsGreater(net, top);
+            countsGreater(net, top);
+            countsGreater(net, MOST);
         }
         due("smallest() of " + net.name + " at its end", net.next().smallest(), 0);
     }
 
     private static void countsAgainAfterConnect(int n) {
         Net net = full("a network raised again", n, 50);
-        net.cap(10);
+        countsGreater(net, 10);
         for (int u = 0; u < n; u++) {
             for (int v = u + 1; v < n; v++) {
                 net.connect(u, v, 11);
-                due("cap(10) in " + net.name, net.next().cap(10), 1);
-                net.record(u, v, 10);
+                due("cap(10) of " + net.name, net.cap(10), 1);
             }
         }
-        net.cap(9);
+        countsGreater(net, 9);
     }
 
     public static void main(String[] args) {
